@@ -386,6 +386,16 @@ public final class PromiseTest {
         Check.due("not is three letters wide", 1, () -> y.more(2, 1));
         Check.due("a num is as wide as it is great", 10, () -> y.more(5, 1));
         Check.due("all ten are lawful", 10, () -> y.more(5, 2));
+        BlottedDeed z = Check.told("heir a;estate 19;coin a 10;coin a 9;");
+        Check.due("10 is two digits wide", 90, () -> z.more(1, 1));
+        Check.due("9 is one digit wide", 10, () -> z.more(3, 1));
+        BlottedDeed w = Check.told("heir a;heir b;thing m 1;" + "when is b m a 5;".repeat(9));
+        Check.due("told(5) of nine conditions", 36, () -> w.told(5));
+        Check.due("the last place", 5, () -> w.more(35, 0));
+        Check.due("candidates at the last place", 10, () -> w.more(35, 1));
+        Check.due("readings of the last place", 10, () -> w.more(35, 2));
+        Check.due("no place 36", Check.IOOBE, () -> w.more(36, 0));
+        Check.due("weak(0) of nine conditions", 0, () -> w.weak(0));
     }
 
     private static void weak() {
@@ -434,11 +444,13 @@ public final class PromiseTest {
         Check.due("readings round a middle", 11, y::readings);
         Check.due("their middle", 1, () -> y.middle(0));
         Check.due("its greatest number", 1, () -> y.middle(1));
-        // the first 400 have m go to a, and differ by the other two blots alone
-        BlottedDeed z = Check.told("heir a;heir b;heir c;heir d;thing m 1;thing n 1;thing o 1;will m #1;"
-            + "when is b o b #0;will n #1;");
-        Check.due("readings()", 1600, z::readings);
-        Check.due("apart(0, 401)", 2, () -> z.apart(0, 401));
+        // the first 400 have m go to a, and differ by the last two blots alone; by the next three others differ
+        BlottedDeed z = Check.told("heir a;heir b;heir cc;heir dd;thing m 1;thing n 1;thing o 1;estate 2;will m #1;"
+            + "when #0 a m cc 1;when #0 a m cc 1;when is b o b #0;will n #0;");
+        Check.due("readings()", 800, z::readings);
+        Check.due("apart(0, 399)", 2, () -> z.apart(0, 399));
+        Check.due("apart(0, 400)", 3, () -> z.apart(0, 400));
+        Check.due("apart(0, 799)", 5, () -> z.apart(0, 799));
         Check.due("middle(0)", 0, () -> z.middle(0));
         Check.due("middle(1) of the first 400 alone", 2, () -> z.middle(1));
     }

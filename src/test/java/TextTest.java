@@ -8,6 +8,9 @@ public final class TextTest {
         faultsOfBlots();
         faultsOfLimits();
         blanksAndDigits();
+        theFirstBytesAlone();
+        manyRows();
+        names();
         allStaysBehindAFault();
         whatIsTold();
         candidates();
@@ -217,6 +220,51 @@ public final class TextTest {
         BlottedDeed y = Check.told("heir a;estate 5;estate 7;estate 3;coin a 3;least a 9;least a 2;");
         Check.due("the last estate counts", 3, () -> y.told(4));
         Check.due("the last least counts", 1, y::readings);
+    }
+
+    private static void theFirstBytesAlone() {
+        String[] texts = {"heir a;", "heir abc;", "estate 55;", "heir a;coin a #1;", "heir a;coin a #1;", "heir a ;"};
+        int[] bytes = {6, 7, 8, 15, 16, 7};
+        for (int i = 0; i < texts.length; i++) {
+            BlottedDeed x = new BlottedDeed();
+            Check.feed(x, texts[i]);
+            fault(x, bytes[i], 1, bytes[i]);
+        }
+        BlottedDeed y = new BlottedDeed();
+        Check.feed(y, "heir a;heir bo;");
+        Check.due("no more than was asked for", 0, () -> y.deed(7));
+        Check.due("told(0)", 1, () -> y.told(0));
+        String full = " ".repeat(560);
+        good(full + "heir a;thing m 1;coin a #1;coin a #0;   ", 2);
+        bad(full + "heir a;thing m 1;coin a #1;will m aaaaaa", 2, 594);
+        bad(full + "heir a;thing m 1;coin a #1;coin a 000001", 1, 600);
+        bad(full + "heir a;thing m 1;coin a #1;coin a #00001", 1, 600);
+        bad(full + "heir a;thing m 1;coin a #1;coin a     # ", 1, 600);
+        bad(full + "heir a;thing m 1;coin a #1;coin a      #", 1, 600);
+        bad(full + "heir a;thing m 1;coin a #1;coin        a", 1, 600);
+    }
+
+    private static void manyRows() {
+        BlottedDeed x = Check.told("heir a;heir b;thing m 1;estate 5;coin a #1;coin a #1;coin b #1;when is b m #1 #1;");
+        Check.due("20,000 rows are not too many", 20000, () -> x.told(6));
+        Check.due("their readings", 21 * 20, x::readings);
+        Check.due("the last of them", 9, () -> x.reading(419, 4));
+    }
+
+    private static void names() {
+        good("heir a;heir aa;heir b;heir bb;thing z 1;thing zz 1;thing aaa 1;thing ba 1;thing ab 1;", 0);
+        BlottedDeed x = Check.told("heir b;heir bb;heir aaaaaaaaa;heir zzzzzzzzz;estate 6;coin bb 1;coin zzzzzzzzz 5;");
+        int[] due = {0, 1, 0, 5};
+        for (int h = 0; h < due.length; h++) {
+            int heir = h;
+            Check.due("coin(" + h + ", 0)", due[h], () -> x.coin(heir, 0));
+        }
+        for (String word : new String[] {"jeir a;", "heis a;", "shing m 1;", "xoin a 1;", "fstate 1;", "estatf 1;"}) {
+            bad(word, 1, 0);
+        }
+        bad("heir a;thing m 1;when us a m a 5;", 2, 22);
+        bad("heir a;thing m 1;when nut a m a 5;", 2, 22);
+        bad("heir a;thing m 1;when i a m a 5;", 2, 22);
     }
 
     private static void allStaysBehindAFault() {
