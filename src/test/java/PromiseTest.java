@@ -1,15 +1,5 @@
 /** Promises 1 and 8 to 45, with answers that were found by hand. */
 public final class PromiseTest {
-    /** Four readings: (0, ann, is, 11), (0, bob, not, 11), (1, ann, is, 10), (1, bob, not, 10). */
-    private static final String MILL = "heir ann;heir bob;heir clara;thing mill 50;thing cow 8;estate 20;least bob 3;"
-        + "coin ann #1;coin bob 9;will mill #3;when #0 ann mill clara #2;";
-    /** Six readings: m to a or b, n to a, b or cc; no coin. */
-    private static final String WILLS = "heir a;heir b;heir cc;thing m 10;thing n 7;will m #1;will n #0;";
-    /** Ten readings: a has 0 to 9, b the rest of 9. */
-    private static final String SPLIT = "heir a;heir b;thing m 4;estate 9;coin a #1;coin b #1;will m a;";
-    /** No readings, two heirs, one thing, a blot of each kind. */
-    private static final String EMPTY = "heir a;heir b;thing m 4;estate 999;coin a #1;will m #1;when #0 a m b 5;";
-
     public static void main(String[] args) {
         newObject();
         readingsInOrder();
@@ -61,7 +51,7 @@ public final class PromiseTest {
     }
 
     private static void readingsInOrder() {
-        BlottedDeed x = Check.told(MILL);
+        BlottedDeed x = Check.told(Deeds.MILL);
         int[][] rows = {{0, 0, 0, 11}, {0, 1, 1, 11}, {1, 0, 0, 10}, {1, 1, 1, 10}};
         Check.due("readings()", 4, x::readings);
         for (int i = 0; i < 4; i++) {
@@ -82,7 +72,7 @@ public final class PromiseTest {
     }
 
     private static void aliveAndHolding() {
-        BlottedDeed x = Check.told(MILL);
+        BlottedDeed x = Check.told(Deeds.MILL);
         int[] alive = {2, 2, 2, 2};
         for (int b = 0; b < 4; b++) {
             int blot = b;
@@ -96,14 +86,14 @@ public final class PromiseTest {
         Check.due("holding(1, 2)", -1, () -> x.holding(1, 2));
         Check.due("holding(2, -1)", -1, () -> x.holding(2, -1));
         Check.due("holding(4, 0)", Check.NOSUCH, () -> x.holding(4, 0));
-        BlottedDeed y = Check.told(SPLIT);
+        BlottedDeed y = Check.told(Deeds.SPLIT);
         Check.due("alive(0) of the split", 10, () -> y.alive(0));
         Check.due("holding(0, 9) of the split", 1, () -> y.holding(0, 9));
     }
 
     private static void bars() {
         String[] texts = {
-            MILL, "heir a;estate 5;coin a 4;", "heir a;heir b;thing m 1;will m a;will m b;", "heir a;least a 1;",
+            Deeds.MILL, "heir a;estate 5;coin a 4;", "heir a;heir b;thing m 1;will m a;will m b;", "heir a;least a 1;",
             "heir a;estate 5;coin a #1;least a 6;", "heir a;estate 5;coin a 4;least a 6;",
             "heir a;heir b;thing m 1;estate 5;will m a;will m b;when is a m b 5;",
             "heir a;heir b;thing m 1;estate 5;will m a;will m b;when is b m b 5;",
@@ -117,7 +107,7 @@ public final class PromiseTest {
     }
 
     private static void getsAndGoes() {
-        BlottedDeed x = Check.told(MILL);
+        BlottedDeed x = Check.told(Deeds.MILL);
         int[][] due = {{0, 0, 0}, {0, 1, 50}, {1, 0, 9}, {2, 0, 11}, {2, 1, 11}};
         for (int[] row : due) {
             Check.due("gets(0, " + row[0] + ", " + row[1] + ")", row[2], () -> x.gets(0, row[0], row[1]));
@@ -138,7 +128,7 @@ public final class PromiseTest {
     }
 
     private static void oftenAndSure() {
-        BlottedDeed x = Check.told(WILLS);
+        BlottedDeed x = Check.told(Deeds.WILLS);
         Check.due("often(0, 0)", 3, () -> x.often(0, 0));
         Check.due("often(0, 2)", 0, () -> x.often(0, 2));
         Check.due("often(1, 2)", 2, () -> x.often(1, 2));
@@ -147,13 +137,13 @@ public final class PromiseTest {
         Check.due("sure(0, 0)", 0, () -> x.sure(0, 0) ? 1 : 0);
         Check.due("sure(0, -1)", Check.IOOBE, () -> x.sure(0, -1) ? 1 : 0);
         Check.due("sure(-1, 0)", Check.IOOBE, () -> x.sure(-1, 0) ? 1 : 0);
-        BlottedDeed y = Check.told(SPLIT);
+        BlottedDeed y = Check.told(Deeds.SPLIT);
         Check.due("sure(0, 0) of the split", 1, () -> y.sure(0, 0) ? 1 : 0);
         Check.due("sure(0, 1) of the split", 0, () -> y.sure(0, 1) ? 1 : 0);
     }
 
     private static void coinAndWorth() {
-        BlottedDeed x = Check.told(MILL);
+        BlottedDeed x = Check.told(Deeds.MILL);
         Check.due("coin(2, 0)", 10, () -> x.coin(2, 0));
         Check.due("coin(2, 1)", 11, () -> x.coin(2, 1));
         Check.due("coin(2, 2)", Check.ILLEGAL, () -> x.coin(2, 2));
@@ -172,19 +162,19 @@ public final class PromiseTest {
     }
 
     private static void cleanedAndSettles() {
-        BlottedDeed x = Check.told(WILLS);
+        BlottedDeed x = Check.told(Deeds.WILLS);
         Check.due("cleaned(0)", 3, () -> x.cleaned(0));
         Check.due("cleaned(1)", 2, () -> x.cleaned(1));
         Check.due("cleaned(2)", Check.NOSUCH, () -> x.cleaned(2));
         Check.due("settles()", 1, x::settles);
-        BlottedDeed y = Check.told(SPLIT);
+        BlottedDeed y = Check.told(Deeds.SPLIT);
         Check.due("settles(), of alike ones the first", 0, y::settles);
         BlottedDeed z = Check.told("heir a;thing m 1;will m a;");
         Check.due("settles() without blots", -1, z::settles);
     }
 
     private static void fewest() {
-        BlottedDeed x = Check.told(WILLS);
+        BlottedDeed x = Check.told(Deeds.WILLS);
         int[][] due = {{1, 1}, {1, 2}};
         for (int t = 0; t < 2; t++) {
             for (int what = 0; what < 2; what++) {
@@ -195,7 +185,7 @@ public final class PromiseTest {
         }
         Check.due("fewest(0, 2)", Check.ILLEGAL, () -> x.fewest(0, 2));
         Check.due("fewest(2, 2)", Check.IOOBE, () -> x.fewest(2, 2));
-        BlottedDeed y = Check.told(MILL);
+        BlottedDeed y = Check.told(Deeds.MILL);
         Check.due("of sets of one the least bits", 2, () -> y.fewest(0, 1));
         Check.due("what goes to nobody is known", 0, () -> y.fewest(1, 0));
         // one thing of three goes to a, and n and o tell of m only together
@@ -210,13 +200,13 @@ public final class PromiseTest {
     }
 
     private static void sway() {
-        BlottedDeed x = Check.told(WILLS);
+        BlottedDeed x = Check.told(Deeds.WILLS);
         Check.due("sway(0, 0)", 6, () -> x.sway(0, 0));
         Check.due("sway(0, 1)", 0, () -> x.sway(0, 1));
         Check.due("sway(1, 1)", 6, () -> x.sway(1, 1));
         Check.due("sway(2, 2)", Check.IOOBE, () -> x.sway(2, 2));
         Check.due("sway(0, 2)", Check.NOSUCH, () -> x.sway(0, 2));
-        BlottedDeed y = Check.told(MILL);
+        BlottedDeed y = Check.told(Deeds.MILL);
         Check.due("two blots differ at once", 0, () -> y.sway(0, 1));
         // if the num is 0, it does not matter who has m: two of the readings
         BlottedDeed z = Check.told("heir a;heir b;thing m 1;will m #1;when is a m b #1;");
@@ -225,11 +215,11 @@ public final class PromiseTest {
     }
 
     private static void gains() {
-        BlottedDeed x = Check.told(WILLS);
+        BlottedDeed x = Check.told(Deeds.WILLS);
         Check.due("gains(0)", 3, () -> x.gains(0));
         Check.due("gains(1)", 7, () -> x.gains(1));
         Check.due("gains(2)", Check.NOSUCH, () -> x.gains(2));
-        BlottedDeed y = Check.told(MILL);
+        BlottedDeed y = Check.told(Deeds.MILL);
         int[] due = {5, 3, 3, 5};
         for (int b = 0; b < 4; b++) {
             int blot = b;
@@ -238,9 +228,9 @@ public final class PromiseTest {
     }
 
     private static void settlement() {
-        BlottedDeed x = Check.told(MILL);
+        BlottedDeed x = Check.told(Deeds.MILL);
         int[] due = {17, 26, 27};
-        BlottedDeed y = Check.told(WILLS);
+        BlottedDeed y = Check.told(Deeds.WILLS);
         int[] rest = {6, 6, 5};
         for (int h = 0; h < 3; h++) {
             int heir = h;
@@ -252,7 +242,7 @@ public final class PromiseTest {
     }
 
     private static void copiesAndHabits() {
-        BlottedDeed x = Check.told(MILL);
+        BlottedDeed x = Check.told(Deeds.MILL);
         Check.due("copy of a num without candidate", 1, () -> x.copy(0, 0, 99));
         Check.due("copy of a heir without candidate", 2, () -> x.copy(3, 1, 2));
         Check.due("copy of an is", 3, () -> x.copy(1, 2, 1));
@@ -284,7 +274,7 @@ public final class PromiseTest {
     }
 
     private static void odds() {
-        BlottedDeed x = Check.told(MILL);
+        BlottedDeed x = Check.told(Deeds.MILL);
         x.copy(0, 0, 1);
         Check.due("odds(0)", 0, () -> x.odds(0));
         Check.due("odds(2)", 16, () -> x.odds(2));
@@ -318,7 +308,7 @@ public final class PromiseTest {
     }
 
     private static void likely() {
-        BlottedDeed x = Check.told(MILL);
+        BlottedDeed x = Check.told(Deeds.MILL);
         int[][] even = {{0, 0, 0, 1}, {0, 0, 1, 2}, {0, 2, 0, 0}, {0, 2, 1, 1}, {1, 0, 0, 0}, {1, 0, 1, 1}};
         for (int[] row : even) {
             Check.due("likely without copies", row[3], () -> x.likely(row[0], row[1], row[2]));
@@ -347,7 +337,7 @@ public final class PromiseTest {
     }
 
     private static void slips() {
-        BlottedDeed x = Check.told(MILL);
+        BlottedDeed x = Check.told(Deeds.MILL);
         Check.due("slips(0) without copies", 0, () -> x.slips(0));
         Check.due("slips(1) without copies", 0, () -> x.slips(1));
         x.copy(0, 0, 1);
@@ -366,7 +356,7 @@ public final class PromiseTest {
     }
 
     private static void more() {
-        BlottedDeed x = Check.told(MILL);
+        BlottedDeed x = Check.told(Deeds.MILL);
         // ann 0, bob 9, ann, is ann clara 11
         int[][] due = {{0, 2, 2}, {0, 10, 1}, {1, 2, 1}, {9, 10, 1}, {0, 2, 1}, {0, 1, 1}, {0, 2, 1}, {2, 1, 1}, {11, 90, 1}};
         for (int p = 0; p < due.length; p++) {
@@ -399,7 +389,7 @@ public final class PromiseTest {
     }
 
     private static void weak() {
-        BlottedDeed x = Check.told(WILLS);
+        BlottedDeed x = Check.told(Deeds.WILLS);
         Check.due("weak(0)", 1, () -> x.weak(0));
         Check.due("weak(1)", 1, () -> x.weak(1));
         Check.due("weak(2)", Check.IOOBE, () -> x.weak(2));
@@ -410,7 +400,7 @@ public final class PromiseTest {
     }
 
     private static void struck() {
-        BlottedDeed x = Check.told(MILL);
+        BlottedDeed x = Check.told(Deeds.MILL);
         // without his 9 bob has not his least; without the will it is "not", whoever stands in it
         int[] due = {20, 0, 4, 0};
         for (int p = 0; p < 4; p++) {
@@ -429,7 +419,7 @@ public final class PromiseTest {
     }
 
     private static void apartAndMiddle() {
-        BlottedDeed x = Check.told(WILLS);
+        BlottedDeed x = Check.told(Deeds.WILLS);
         Check.due("apart(0, 5)", 2, () -> x.apart(0, 5));
         Check.due("apart(0, 1)", 1, () -> x.apart(0, 1));
         Check.due("apart(3, 0)", 1, () -> x.apart(3, 0));
@@ -456,7 +446,7 @@ public final class PromiseTest {
     }
 
     private static void when() {
-        BlottedDeed x = Check.told(MILL);
+        BlottedDeed x = Check.told(Deeds.MILL);
         Check.due("when(0, 0, 2, 0)", 10, () -> x.when(0, 0, 2, 0));
         Check.due("when(0, 0, 2, 1)", 11, () -> x.when(0, 0, 2, 1));
         Check.due("when(0, 0, 0, 1)", 1, () -> x.when(0, 0, 0, 1));
@@ -469,7 +459,7 @@ public final class PromiseTest {
     }
 
     private static void steps() {
-        BlottedDeed x = Check.told(WILLS);
+        BlottedDeed x = Check.told(Deeds.WILLS);
         int[][] due = {{2, 1, 0, -1}, {1, 1, -1, -1}};
         for (int t = 0; t < 2; t++) {
             for (int what = 0; what < 4; what++) {
@@ -483,7 +473,7 @@ public final class PromiseTest {
         Check.due("steps(5, 0, -1)", Check.ILLEGAL, () -> x.steps(5, 0, -1));
         Check.due("steps(6, 0, 9)", Check.IOOBE, () -> x.steps(6, 0, 9));
         Check.due("steps(0, 2, 9)", Check.IOOBE, () -> x.steps(0, 2, 9));
-        BlottedDeed y = Check.told(SPLIT);
+        BlottedDeed y = Check.told(Deeds.SPLIT);
         Check.due("what is known needs none", 0, () -> y.steps(4, 0, 0));
         // (0, a, 0 to 9), then (0, b, 5), (1, b, 4) .. (5, b, 0): the last num leaves two at most
         BlottedDeed z = Check.told("heir a;heir b;thing m 1;estate 5;coin a #1;will m #1;when is a m a 5;when is b m a #1;");
@@ -498,7 +488,7 @@ public final class PromiseTest {
     }
 
     private static void pairsAndRows() {
-        BlottedDeed x = Check.told(WILLS);
+        BlottedDeed x = Check.told(Deeds.WILLS);
         Check.due("pairs(0, 1)", 2, () -> x.pairs(0, 1));
         Check.due("pairs(1, 0)", 2, () -> x.pairs(1, 0));
         Check.due("pairs(1, 1)", Check.ILLEGAL, () -> x.pairs(1, 1));
@@ -516,16 +506,16 @@ public final class PromiseTest {
     }
 
     private static void bare() {
-        BlottedDeed x = Check.told(MILL);
+        BlottedDeed x = Check.told(Deeds.MILL);
         Check.due("bare()", 4, x::bare);
-        BlottedDeed y = Check.told(WILLS);
+        BlottedDeed y = Check.told(Deeds.WILLS);
         Check.due("bare() of the wills", 0, y::bare);
         BlottedDeed z = Check.told("heir a;heir b;thing m 1;");
         Check.due("bare() without wills", 3, z::bare);
     }
 
     private static void images() {
-        BlottedDeed x = Check.told(MILL);
+        BlottedDeed x = Check.told(Deeds.MILL);
         Check.due("restore() without image", -1, x::restore);
         x.copy(0, 0, 1);
         x.habit(0, 1, 0, 4);
@@ -552,7 +542,7 @@ public final class PromiseTest {
     }
 
     private static void statusAndCount() {
-        BlottedDeed x = Check.told(MILL);
+        BlottedDeed x = Check.told(Deeds.MILL);
         x.image();
         Check.answer(() -> x.goes(9, 9));
         Check.answer(() -> x.reading(9, 9));
@@ -566,7 +556,7 @@ public final class PromiseTest {
         x.restore();
         x.restore();
         Check.tell(x, "?");
-        Check.tell(x, MILL);
+        Check.tell(x, Deeds.MILL);
         Check.due("no image, no deed changes it", 2, () -> x.status(0));
         Check.due("what is answered is not refused", 1, () -> x.status(2));
         Check.due("status(3)", -1, () -> x.status(3));
@@ -587,7 +577,7 @@ public final class PromiseTest {
     }
 
     private static void withoutReadings() {
-        BlottedDeed x = Check.told(EMPTY);
+        BlottedDeed x = Check.told(Deeds.EMPTY);
         Check.due("readings()", 0, x::readings);
         Check.due("reading(0, 0)", Check.IOOBE, () -> x.reading(0, 0));
         Check.due("alive(0)", 0, () -> x.alive(0));
