@@ -1396,13 +1396,15 @@ public final class BlottedDeed {
 
         private int findFewest(int thing) {
             int all = (1 << deed.blots) - 1;
-            int found = all;
-            for (int set = 0; set < all; set++) {
-                if (Integer.bitCount(set) < Integer.bitCount(found) && !sortOwners(set, thing)) {
-                    found = set;
+            // Small sets are nearly always enough, and each set costs a walk through all readings.
+            for (int many = 0; many < deed.blots; many++) {
+                for (int set = 0; set < all; set++) {
+                    if (Integer.bitCount(set) == many && !sortOwners(set, thing)) {
+                        return set;
+                    }
                 }
             }
-            return found;
+            return all;
         }
 
         int swayedBy(int thing, int blot) {
@@ -1423,7 +1425,8 @@ public final class BlottedDeed {
         private boolean sortOwners(int set, int thing) {
             int groups = groupsBy(set);
             if (group.length < groups) {
-                group = new byte[deed.rows];
+                // Groups are never more than rows, so this is room enough.
+                group = new byte[Math.min(Math.max(group.length * 2, groups), ROWS)];
             }
             for (int g = 0; g < groups; g++) {
                 group[g] = 0;
